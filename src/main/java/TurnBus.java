@@ -408,14 +408,25 @@ public final class TurnBus {
         int d3 = group / 100 % 10;
         int d4 = group / 10 % 10;
         int d5 = group % 10;
+        int xy = 10 * d4 + d5;
         switch (group / 10000) {
-            case 1: return d2 == 0 && d3 == 0 && runsPass(10 * d4 + d5);
+            case 1:
+                if (d2 != 0 || d3 != 0 || xy < 1) {
+                    return false;
+                }
+                trial.stepTimes(xy);
+                return true;
             case 2: return d5 <= 1 && runsSend(d2, d3, d4, d5 == 1);
             case 3: return d5 == 0 && runsGive(10 * d2 + d3, d4);
-            case 4: return d4 == 0 && d5 == 0 && runsForgive(d2, d3);
-            case 5: return d3 == 0 && d4 == 0 && d5 == 0 && runsSetCredit(d2);
-            case 6: return d3 == 0 && trial.hasMaster(d2) && trial.rows[d2].debts() <= 10 * d4 + d5;
-            case 7: return d3 == 0 && trial.hasMaster(d2) && trial.rows[d2].waited <= 10 * d4 + d5;
+            case 4: return xy == 0 && runsForgive(d2, d3);
+            case 5:
+                if (d3 != 0 || xy != 0) {
+                    return false;
+                }
+                trial.credit = d2;
+                return true;
+            case 6: return d3 == 0 && trial.hasMaster(d2) && trial.rows[d2].debts() <= xy;
+            case 7: return d3 == 0 && trial.hasMaster(d2) && trial.rows[d2].waited <= xy;
             case 8: return d3 == 0 && d4 == 0 && d5 <= 1 && trial.hasMaster(d2)
                     && trial.rows[d2].bankrupt == (d5 == 1);
             case 9:
@@ -423,17 +434,9 @@ public final class TurnBus {
                     return false;
                 }
                 probe.copyFrom(trial);
-                return probe.stepsTillDone(d2, d2, 10 * d4 + d5) <= 10 * d4 + d5;
+                return probe.stepsTillDone(d2, d2, xy) <= xy;
             default: return false;
         }
-    }
-
-    private boolean runsPass(int ticks) {
-        if (ticks < 1) {
-            return false;
-        }
-        trial.stepTimes(ticks);
-        return true;
     }
 
     private boolean runsSend(int m, int slave, int words, boolean asks) {
@@ -458,11 +461,6 @@ public final class TurnBus {
             return false;
         }
         trial.rows[a].debtTo[b] = 0;
-        return true;
-    }
-
-    private boolean runsSetCredit(int credit) {
-        trial.credit = credit;
         return true;
     }
 
@@ -572,6 +570,7 @@ public final class TurnBus {
         final Bursts bursts = new Bursts();
         final Answers answers = new Answers();
         boolean bankrupt;
+        // Whether it has something to do in the tick that goes by; no part of the state.
         boolean busy;
         int waited;
         int longest;
@@ -585,7 +584,6 @@ public final class TurnBus {
             bursts.count = 0;
             answers.count = 0;
             bankrupt = false;
-            busy = false;
             waited = 0;
             longest = 0;
             ownTurns = 0;
@@ -601,7 +599,6 @@ public final class TurnBus {
             bursts.copyFrom(other.bursts);
             answers.copyFrom(other.answers);
             bankrupt = other.bankrupt;
-            busy = other.busy;
             waited = other.waited;
             longest = other.longest;
             ownTurns = other.ownTurns;
@@ -632,7 +629,7 @@ public final class TurnBus {
             return bursts.count == 0 && answers.count == 0;
         }
 
-        // Kept for the whole tick, as the tick's own work must not change who had something to do in it.
+        // Looked at once a tick: the word or answer of the turn must not change who had something to do.
         void lookForWork(int tick) {
             busy = bursts.count > 0 || answers.firstReady(tick) != NONE;
         }

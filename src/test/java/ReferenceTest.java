@@ -156,7 +156,7 @@ public final class ReferenceTest {
         int n = random.nextInt(12) == 0 ? random.nextInt(6) - 1 : 1 + random.nextInt(3);
         long script = 0;
         for (int i = 0; i < n; i++) {
-            script = script * 100000 + command();
+            script = script * 100000 + command(i == n - 1 && random.nextInt(3) != 0);
         }
         if (random.nextInt(25) == 0) {
             script = random.nextLong();
@@ -165,22 +165,23 @@ public final class ReferenceTest {
         compare(name + "runScript(" + n + ", " + all + ")", () -> bus.runScript(n, all), () -> reference.runScript(n, all));
     }
 
-    private int command() {
+    private int command(boolean asksSomething) {
         int m = random.nextInt(reference.about(0) + (random.nextInt(10) == 0 ? 1 : 0));
         int k = random.nextInt(reference.about(0));
         int slot = random.nextInt(reference.about(1) + (random.nextInt(10) == 0 ? 1 : 0));
         int group = random.nextInt(100000);
-        switch (random.nextInt(10)) {
+        int some = random.nextInt(random.nextInt(3) == 0 ? 100 : 16);
+        switch (asksSomething ? 6 + random.nextInt(5) : random.nextInt(11)) {
             case 0: break;
-            case 1: group = 10000 + random.nextInt(random.nextBoolean() ? 100 : 12); break;
+            case 1: group = 10000 + some; break;
             case 2: group = 20000 + m * 1000 + random.nextInt(5) * 100 + random.nextInt(10) * 10 + random.nextInt(2); break;
             case 3: group = 30000 + slot * 100 + m * 10; break;
             case 4: group = 40000 + m * 1000 + k * 100; break;
             case 5: group = 50000 + random.nextInt(10) * 1000; break;
             case 6: group = 60000 + m * 1000 + random.nextInt(4); break;
-            case 7: group = 70000 + m * 1000 + random.nextInt(6); break;
+            case 7: group = 70000 + m * 1000 + some; break;
             case 8: group = 80000 + m * 1000 + random.nextInt(2); break;
-            default: group = 90000 + m * 1000 + random.nextInt(100); break;
+            default: group = 90000 + m * 1000 + some; break;
         }
         int[] places = {1, 10, 100, 1000};
         return random.nextInt(8) == 0 ? group + places[random.nextInt(4)] : group;

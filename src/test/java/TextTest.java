@@ -51,6 +51,10 @@ public final class TextTest {
         Due.is("clearText", bus.clearText(), 4);
         Due.is("clearText again", bus.clearText(), 0);
         Due.is("errorPosition of nothing", bus.errorPosition(), 0);
+        Due.type(bus, "U20");
+        Due.is("errorPosition of a part", bus.errorPosition(), 3);
+        Due.is("append", bus.append('4'), 4);
+        Due.is("errorPosition of a bus", bus.errorPosition(), TurnBus.NONE);
     }
 
     private static void errorsOfTheHead() {
@@ -208,6 +212,17 @@ public final class TextTest {
         bus.save(0);
         bus.save(1);
         bus.pass(40);
+        for (int i = 0; i < 6; i++) {
+            bus.send(0, 0, 8, true);
+            bus.send(1, 0, 8, true);
+        }
+        bus.pass(45);
+        bus.give(0, 1);
+        bus.pass(9);
+        bus.give(0, 0);
+        bus.give(1, 0);
+        bus.pass(9);
+        bus.turnIn(1);
         bus.addMaster();
         bus.setLatency(1, 9);
         Due.is("load", bus.load(), 2);
@@ -221,6 +236,9 @@ public final class TextTest {
         for (int what = 0; what <= 10; what++) {
             int[] want = {1, 0, 0, 2, 16, 0, 0, 0, 0, 0, 0};
             Due.is("master(0, " + what + ") after load", bus.master(0, what), want[what]);
+        }
+        for (int what = 1; what <= 10; what++) {
+            Due.is("master(1, " + what + ") after load", bus.master(1, what), 0);
         }
         Due.is("latency of 1 after load", bus.setLatency(1, 2), 2);
     }

@@ -9,6 +9,7 @@ public final class ViewTest {
         newObject();
         aboutNumbers();
         masterNumbers();
+        sixMasters();
         owners();
         debts();
         bursts();
@@ -100,6 +101,31 @@ public final class ViewTest {
         }
         for (int what : new int[] {-1, 11, Integer.MIN_VALUE, Integer.MAX_VALUE}) {
             Due.refuses("master(0, " + what + ")", ARGUMENT, () -> bus.master(0, what));
+        }
+    }
+
+    // The master 0 takes a turn of each other one, 5 the turns of 0: all sums have a first and a last part.
+    private static void sixMasters() {
+        TurnBus bus = Due.loaded("U606b008-b001+o000");
+        bus.pass(6);
+        bus.send(5, 0, 8, true);
+        bus.send(0, 0, 1, true);
+        bus.send(0, 0, 1, true);
+        bus.send(0, 0, 1, true);
+        int[] about = {6, 6, 6, 0, 4, 4, 6, 0, TurnBus.NONE, 0};
+        about[3] = 1;
+        for (int what = 0; what < about.length; what++) {
+            Due.is("about(" + what + ") of six", bus.about(what), about[what]);
+        }
+        for (int b = 1; b < 6; b++) {
+            Due.is("owes(0, " + b + ")", bus.owes(0, b), b < 5 ? 1 : 0);
+            Due.is("owed to " + b, bus.master(b, 2), b < 5 ? 1 : 0);
+        }
+        Due.is("order(0)", bus.order(0), 0);
+        Due.is("order(5)", bus.order(5), 5);
+        Due.is("order(6)", bus.order(6), TurnBus.NONE);
+        for (int m = 0; m < 6; m++) {
+            Due.is("slots of " + m, bus.master(m, 0), 1);
         }
     }
 
