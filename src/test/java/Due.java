@@ -4,6 +4,10 @@ final class Due {
         long run();
     }
 
+    interface CallWith {
+        long run(int argument);
+    }
+
     private static int checked = 0;
     private static int wrong = 0;
 
@@ -29,6 +33,27 @@ final class Due {
                 wrong++;
                 System.out.println(what + " threw " + e + ", due is " + want.getSimpleName());
             }
+        }
+    }
+
+    static void accepts(String what, Call call) {
+        checked++;
+        try {
+            call.run();
+        } catch (RuntimeException e) {
+            wrong++;
+            System.out.println(what + " threw " + e + ", due is an answer");
+        }
+    }
+
+    /** Each number from low to high is allowed; each number outside is refused. */
+    static void range(String what, int low, int high, Class<? extends RuntimeException> want, CallWith call) {
+        for (int a = low; a <= high; a++) {
+            int argument = a;
+            accepts(what + " with " + a, () -> call.run(argument));
+        }
+        for (int a : new int[] {low - 1, high + 1, Integer.MIN_VALUE, Integer.MAX_VALUE}) {
+            refuses(what + " with " + a, want, () -> call.run(a));
         }
     }
 

@@ -174,7 +174,7 @@ public final class ForecastTest {
     private static void nothingChanges() {
         TurnBus bus = Due.loaded("U303b003+b102-b208+");
         bus.pass(2);
-        String before = all(bus);
+        String before = Seen.of(bus);
         bus.turnIn(50);
         bus.doneIn(0);
         bus.doneIn(2);
@@ -184,25 +184,6 @@ public final class ForecastTest {
         bus.errorPosition();
         bus.runScript(3, 100505900010099L);
         bus.simulate(5, 100);
-        Due.same("all numbers", all(bus), before);
-    }
-
-    private static String all(TurnBus bus) {
-        StringBuilder numbers = new StringBuilder();
-        for (int what = 0; what <= 9; what++) {
-            numbers.append(bus.about(what)).append(' ');
-        }
-        for (int m = 0; m < bus.about(0); m++) {
-            for (int what = 0; what <= 10; what++) {
-                numbers.append(bus.master(m, what)).append(' ');
-            }
-            for (int b = 0; b < bus.about(0); b++) {
-                numbers.append(bus.owes(m, b)).append(' ');
-            }
-        }
-        for (int s = 0; s < bus.about(1); s++) {
-            numbers.append(bus.owner(s)).append(' ');
-        }
-        return numbers.toString();
+        Due.same("all numbers", Seen.of(bus), before);
     }
 }

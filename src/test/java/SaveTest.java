@@ -28,7 +28,7 @@ public final class SaveTest {
         TurnBus bus = Due.loaded("U303b208+b101-l07");
         bus.pass(4);
         Due.is("save(0)", bus.save(0), 4);
-        String first = numbers(bus);
+        String first = Seen.of(bus);
         bus.pass(5);
         bus.addMaster();
         bus.give(0, 3);
@@ -36,16 +36,16 @@ public final class SaveTest {
         bus.setCredit(0);
         bus.send(3, 2, 7, false);
         Due.is("save(1)", bus.save(1), 9);
-        String second = numbers(bus);
+        String second = Seen.of(bus);
         bus.pass(50);
         Due.is("restore(0)", bus.restore(0), 4);
-        Due.same("the first state", numbers(bus), first);
+        Due.same("the first state", Seen.of(bus), first);
         Due.is("restore(1)", bus.restore(1), 9);
-        Due.same("the second state", numbers(bus), second);
+        Due.same("the second state", Seen.of(bus), second);
         Due.is("latency", bus.setLatency(0, 9), 1);
         bus.pass(20);
         Due.is("restore(0) again", bus.restore(0), 4);
-        Due.same("the first state again", numbers(bus), first);
+        Due.same("the first state again", Seen.of(bus), first);
         Due.is("latency", bus.setLatency(0, 9), 7);
         bus.pass(1);
         Due.is("save(0) over it", bus.save(0), 5);
@@ -80,28 +80,5 @@ public final class SaveTest {
         Due.is("undo", bus.undo(), 0);
         Due.is("ticks", bus.about(2), 0);
         Due.is("undo keeps the save slots", bus.restore(0), 7);
-    }
-
-    private static String numbers(TurnBus bus) {
-        StringBuilder numbers = new StringBuilder();
-        for (int what = 0; what <= 9; what++) {
-            numbers.append(bus.about(what)).append(' ');
-        }
-        for (int m = 0; m < bus.about(0); m++) {
-            for (int what = 0; what <= 10; what++) {
-                numbers.append(bus.master(m, what)).append(' ');
-            }
-            for (int b = 0; b < bus.about(0); b++) {
-                numbers.append(bus.owes(m, b)).append(' ');
-            }
-            for (int i = 0; i < 6; i++) {
-                numbers.append(bus.burst(m, i, 0)).append(bus.burst(m, i, 1)).append(bus.burst(m, i, 2)).append(' ');
-            }
-            numbers.append(bus.doneIn(m)).append(' ');
-        }
-        for (int s = 0; s < bus.about(1); s++) {
-            numbers.append(bus.owner(s)).append(' ');
-        }
-        return numbers.toString();
     }
 }
